@@ -1,0 +1,45 @@
+/** Counts answers that are not as due, and feeds texts. */
+final class Due {
+    private int wrong;
+
+    void is(String call, long got, long want) {
+        if (got != want) {
+            wrong++;
+            System.out.println(call + " answered " + got + ", due is " + want);
+        }
+    }
+
+    static void feed(WhoseHourItIs x, String text) {
+        for (int i = 0; i < text.length(); i += 8) {
+            int n = Math.min(8, text.length() - i);
+            long bytes = 0;
+            for (int k = 0; k < n; k++) {
+                bytes |= (long) (text.charAt(i + k) & 255) << 8 * k;
+            }
+            x.feed(n, bytes);
+        }
+    }
+
+    static int tell(WhoseHourItIs x, String text) {
+        feed(x, text);
+        return x.town();
+    }
+
+    static WhoseHourItIs of(String... texts) {
+        WhoseHourItIs x = new WhoseHourItIs();
+        for (String text : texts) {
+            int answer = tell(x, text);
+            if (answer < 1) {
+                throw new IllegalStateException(text + " has a fault: " + answer);
+            }
+        }
+        return x;
+    }
+
+    void end() {
+        System.out.println(wrong == 0 ? "all answers are as due" : wrong + " answers are not as due");
+        if (wrong != 0) {
+            System.exit(1);
+        }
+    }
+}
