@@ -263,8 +263,8 @@ public final class WhoseHourItIs {
         if (!now.hasHolder(one) || !now.hasHolder(other) || one == other) {
             return refuse(NOBODY);
         }
-        now.part(one);
-        now.part(other);
+        now.unwed(one);
+        now.unwed(other);
         now.spouse[one] = other;
         now.spouse[other] = one;
         return 1;
@@ -542,7 +542,7 @@ public final class WhoseHourItIs {
             hoursOf[holder] &= ~(1 << hour);
         }
 
-        void part(int holder) {
+        void unwed(int holder) {
             int other = spouse[holder];
             if (other >= 0) {
                 spouse[other] = NONE;
