@@ -647,7 +647,7 @@ public final class WhoseHourItIs {
             return at;
         }
 
-        /** The form that a place's letter begins; any, for it fits none there. */
+        /** The form that a place's letter begins; for an unknown letter one that does not fit it. */
         private String formAt(int place) {
             int letter = signAt(place);
             if (letter == 'h') {
