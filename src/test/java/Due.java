@@ -25,13 +25,18 @@ final class Due {
         return x.town();
     }
 
-    static WhoseHourItIs of(String... texts) {
+    /** A new object to which statements were told, as many at once as 64 bytes have room for. */
+    static WhoseHourItIs of(String statements) {
         WhoseHourItIs x = new WhoseHourItIs();
-        for (String text : texts) {
+        int begin = 0;
+        while (begin < statements.length()) {
+            int end = Math.min(statements.length(), begin + 64);
+            String text = statements.substring(begin, statements.lastIndexOf(';', end - 1) + 1);
             int answer = tell(x, text);
             if (answer < 1) {
                 throw new IllegalStateException(text + " has a fault: " + answer);
             }
+            begin += text.length();
         }
         return x;
     }
