@@ -61,13 +61,11 @@ public final class LeaveEdges {
         doc.is("strike(1)", x.strike(1), 2);
         doc.is("those who were are not any more", x.count(4), 1);
         doc.says(8, "-1 bits of HOLDERS that there are not.");
-        doc.is("strike(4)", x.strike(4), -1);
-        doc.is("strike(7)", x.strike(7), -1);
-        doc.is("strike(-1)", x.strike(-1), -1);
-        doc.is("strike(least)", x.strike(LEAST), -1);
-        doc.is("strike(greatest)", x.strike(GREATEST), -1);
+        for (int bits : new int[] {4, 5, 7, 8, -1, LEAST, GREATEST}) {
+            doc.is("strike(" + bits + ")", x.strike(bits), -1);
+        }
         doc.is("it stays", x.strike(1), 1);
-        doc.is("count(11)", x.count(11), 5);
+        doc.is("count(11)", x.count(11), 7);
         WhoseHourItIs eight = Due.of(EIGHT);
         doc.is("all eight", eight.strike(255), 0);
         doc.is("a ninth", eight.strike(256), -1);
@@ -281,11 +279,7 @@ public final class LeaveEdges {
         doc.is("not from HOUR 27 to HOUR 0", z.one(1), 0);
         doc.is("the last six", Due.of("po00;pt00;h10-21;w0r6,27,9,0;").one(0), 63 << 22);
         doc.says(11, "ONE (bits); 0 none. -1.");
-        doc.is("one(2)", z.one(2), -1);
-        doc.is("one(-1)", z.one(-1), -1);
-        doc.is("one(least)", z.one(LEAST), -1);
-        doc.is("one(greatest)", z.one(GREATEST), -1);
-        doc.is("count(11)", z.count(11), 4);
+        doc.nobody("one", z, 2, z::one);
     }
 
     private void hoursSpread() {
@@ -340,11 +334,7 @@ public final class LeaveEdges {
         doc.is("NOBODY's HOURS", Due.of("po00;w0r6,27,9,0;").cost(0), 0);
         doc.says(12, "COST of ONE; -9. -1.");
         doc.is("it can not be", Due.of("po00;w0r2,0,9,0;").cost(0), -9);
-        doc.is("cost(3)", x.cost(3), -1);
-        doc.is("cost(-1)", x.cost(-1), -1);
-        doc.is("cost(least)", x.cost(LEAST), -1);
-        doc.is("cost(greatest)", x.cost(GREATEST), -1);
-        doc.is("count(11)", x.count(11), 4);
+        doc.nobody("cost", x, 3, x::cost);
     }
 
     private void net() {
@@ -361,11 +351,7 @@ public final class LeaveEdges {
         doc.is("9 below 0", y.net(1), -9);
         doc.is("10 below 0", y.net(0), -9);
         doc.says(13, "NET, if it is done; -9 not. -1.");
-        doc.is("net(2)", y.net(2), -1);
-        doc.is("net(-1)", y.net(-1), -1);
-        doc.is("net(least)", y.net(LEAST), -1);
-        doc.is("net(greatest)", y.net(GREATEST), -1);
-        doc.is("count(11)", y.count(11), 4);
+        doc.nobody("net", y, 2, y::net);
     }
 
     private void whoBars() {
@@ -388,13 +374,12 @@ public final class LeaveEdges {
         doc.is("one of two DAYS", spread.bars(0), 6);
         doc.is("by HOUR 24", spread.bars(1), 6);
         doc.is("all six DAYS are wanted", spread.bars(2), 0);
+        doc.is("the first HOLDER", Due.of("pt00;po00;h00-27;w1r1,27,9,0;").bars(0), 1);
         doc.is("no HOURS enough by BY", Due.of("po00;pt00;h10-27;w0r2,0,9,0;").bars(0), 0);
         doc.says(14, "-1; -3 it can be.");
         WhoseHourItIs can = Due.of("po00;po90;h10-27;w0r1,27,0,0;");
         doc.is("it can be, though it is not done", can.bars(0), -3);
-        doc.is("bars(1)", can.bars(1), -1);
-        doc.is("bars(-1)", can.bars(-1), -1);
-        doc.is("count(11)", can.count(11), 2);
+        doc.nobody("bars", can, 1, can::bars);
         doc.is("count(13)", can.count(13), 1);
         both.strike(0);
         wed(both, 0, 1);

@@ -131,7 +131,7 @@ public final class Promises {
     }
 
     private void holderHourWork() {
-        WhoseHourItIs x = Due.of("po10;py21;ps32;pj43;pk54;pn65;pt76;" + "h10-3;h22-27;w3s4,20,99,8;w6r6,5,7,0;");
+        WhoseHourItIs x = Due.of("po10;py21;ps32;pj43;pk54;pn65;pt76;h10-3;h22-27;w3s4,20,99,8;w6r6,5,7,0;");
         for (int h = 0; h < 7; h++) {
             due.is("KIND of " + h, x.holder(h, 0), h);
             due.is("PRICE of " + h, x.holder(h, 1), h + 1);
@@ -200,7 +200,8 @@ public final class Promises {
 
     private void leaves() {
         // 0 does works of length 1, 2, 3, 4 and sorts 0, 1; 1..7 are of the kinds o, y, s, j, k, n, t.
-        WhoseHourItIs x = Due.of("pt00;po70;py70;ps70;pj70;pk71;pn70;pt70;" + "w0r1,27,0,0;w0r2,27,0,1;w0r3,27,0,0;w0s4,27,0,1;" + "h00-0;h10-7;h20-3;h212-15;h38-11;h33-3;h44-7;" + "h412-15;h58-11;h54-7;h616-27;h724-27;h416-17;");
+        WhoseHourItIs x = Due.of("pt00;po70;py70;ps70;pj70;pk71;pn70;pt70;w0r1,27,0,0;w0r2,27,0,1;"
+            + "w0r3,27,0,0;w0s4,27,0,1;h00-0;h10-7;h20-3;h212-15;h38-11;h33-3;h44-7;h412-15;h58-11;h54-7;h616-27;h724-27;h416-17;");
         due.is("ONCE", x.leave(0, 1, 0), 7);
         due.is("ONCE", x.leave(3, 1, 7), 7);
         due.is("YEAR by 1", x.leave(0, 2, 0), 14);
@@ -242,7 +243,7 @@ public final class Promises {
     }
 
     private void oneCostNet() {
-        WhoseHourItIs x = Due.of("po10;po20;po10;w0r2,27,5,0;w0s3,11,4,0;w0r6,4,9,0;" + "h10-27;h24-5;h28-8;");
+        WhoseHourItIs x = Due.of("po10;po20;po10;w0r2,27,5,0;w0s3,11,4,0;w0r6,4,9,0;h10-27;h24-5;h28-8;");
         due.is("of equal runs the first", x.one(0), 3);
         due.is("its cost", x.cost(0), 4);
         due.is("its net", x.net(0), 1);
@@ -270,9 +271,9 @@ public final class Promises {
     }
 
     private void bars() {
-        WhoseHourItIs x = Due.of("po10;pt00;pt00;pk05;w0r1,2,9,0;" + "h10-1;h21-1;h22-2;h32-2;h30-0;");
+        WhoseHourItIs x = Due.of("po10;pt00;pt00;pk05;w0r1,2,9,0;h10-1;h21-1;h22-2;h32-2;h30-0;");
         due.is("each hour wants two", x.bars(0), 0);
-        WhoseHourItIs y = Due.of("po10;pt00;pt00;pk05;w0r1,3,9,0;" + "h10-1;h21-1;h22-2;h33-3;");
+        WhoseHourItIs y = Due.of("po10;pt00;pt00;pk05;w0r1,3,9,0;h10-1;h21-1;h22-2;h33-3;");
         due.is("one of three would do", y.bars(0), 14);
         due.is("a bar is no change", y.one(0), 0);
         WhoseHourItIs z = Due.of("po10;po10;w0s1,27,9,0;h10-27;w1r1,0,0,0;");
@@ -344,7 +345,7 @@ public final class Promises {
     }
 
     private void stops() {
-        WhoseHourItIs x = Due.of("po00;po00;po00;po00;w0r1,2,9,0;" + "h10-0;h20-1;h31-2;h12-2;");
+        WhoseHourItIs x = Due.of("po00;po00;po00;po00;w0r1,2,9,0;h10-0;h20-1;h31-2;h12-2;");
         due.is("two of three do, the least as bits", x.stop(0), 6);
         due.is("stop(1)", x.stop(1), -1);
         x.strike(4);
@@ -403,7 +404,7 @@ public final class Promises {
     }
 
     private void weddings() {
-        WhoseHourItIs x = Due.of("po00;po50;po90;po10;w0r1,0,9,0;w0r1,1,9,0;" + "h10-0;h20-1;h31-1;");
+        WhoseHourItIs x = Due.of("po00;po50;po90;po10;w0r1,0,9,0;w0r1,1,9,0;h10-0;h20-1;h31-1;");
         due.is("costs 14 and 10: with 2 they are 5 and 1", x.wed(0), 2);
         due.is("one without works", x.wed(1), -9);
         due.is("wed changes nothing", x.wedTo(0), -9);
@@ -430,7 +431,7 @@ public final class Promises {
         due.is("joint parts", y.cost(0), 216);
         due.is("of several the least", y.wed(0), 2);
         // Hour 0 is barred by 1, hours 1 to 3 by 3; hours 4 to 9 cost 108 by 2's joint parts.
-        WhoseHourItIs z = Due.of("po00;pt00;pj90;pt00;w0r1,0,0,0;w0r6,9,0,0;h10-0;h31-3;" + "h24-9;h04-9;");
+        WhoseHourItIs z = Due.of("po00;pt00;pj90;pt00;w0r1,0,0,0;w0r6,9,0,0;h10-0;h31-3;h24-9;h04-9;");
         due.is("one that can not be counts 100: less than 108", z.wed(0), 2);
         z.price(2, 8);
         due.is("one that can not be counts 100: more than 96", z.wed(0), 1);

@@ -3,6 +3,7 @@ import java.io.UncheckedIOException;
 import java.nio.file.Files;
 import java.nio.file.Path;
 import java.util.TreeSet;
+import java.util.function.IntUnaryOperator;
 
 /** Answers that are due by a sentence of the document: each is told with its promise and sentence. */
 final class Sentences {
@@ -47,6 +48,15 @@ final class Sentences {
     void town(String first, String text, int want) {
         WhoseHourItIs x = first.isEmpty() ? new WhoseHourItIs() : Due.of(first);
         is("town of \"" + text + "\" behind \"" + first + "\"", Due.tell(x, text), want);
+    }
+
+    /** Only 0 .. below - 1 are there: what is outside is refused with -1 and counted, one by one. */
+    void nobody(String call, WhoseHourItIs x, int below, IntUnaryOperator asking) {
+        for (int wrong : new int[] {-1, below, Integer.MIN_VALUE, Integer.MAX_VALUE}) {
+            int ahead = x.count(11);
+            is(call + "(" + wrong + ")", asking.applyAsInt(wrong), -1);
+            is("count(11) behind it", x.count(11), ahead + 1);
+        }
     }
 
     private void endSentence() {

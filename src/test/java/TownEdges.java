@@ -334,7 +334,7 @@ public final class TownEdges {
     private void noRoom() {
         doc.says(3, "no room for more): -2000 less the place");
         doc.town(EIGHT, "h00-0;po00;h01-1;", -2006);
-        WhoseHourItIs x = Due.of("po00;w0r1,0,0,0;w0r1,0,0,0;w0r1,0,0,0;w0r1,0,0,0;w0r1,0,0,0;" + "w0r1,0,0,0;");
+        WhoseHourItIs x = Due.of("po00;w0r1,0,0,0;w0r1,0,0,0;w0r1,0,0,0;w0r1,0,0,0;w0r1,0,0,0;w0r1,0,0,0;");
         doc.is("a seventh WORK", Due.tell(x, "h00-0;w0r1,0,0,0;"), -2006);
     }
 
@@ -358,10 +358,17 @@ public final class TownEdges {
     }
 
     private void holder() {
-        WhoseHourItIs x = Due.of("po01;py19;ps28;pj37;pk46;pn55;pt94;h00-27;" + "h127-27;");
+        WhoseHourItIs x = Due.of("po01;py19;ps28;pj37;pk46;pn55;pt94;h00-27;h127-27;");
         doc.says(4, "0 KIND (0 o, 1 y, 2 s, 3 j, 4 k, 5 n, 6 t)");
         for (int holder = 0; holder < 7; holder++) {
             doc.is("holder(" + holder + ", 0)", x.holder(holder, 0), holder);
+        }
+        doc.says(4, "1 PRICE, 2 FOR");
+        int[] prices = {0, 1, 2, 3, 4, 5, 9};
+        int[] sorts = {1, 9, 8, 7, 6, 5, 4};
+        for (int holder = 0; holder < 7; holder++) {
+            doc.is("holder(" + holder + ", 1)", x.holder(holder, 1), prices[holder]);
+            doc.is("holder(" + holder + ", 2)", x.holder(holder, 2), sorts[holder]);
         }
         doc.says(4, "3 how many HOURS it has a part of");
         doc.is("all", x.holder(0, 3), 28);
@@ -418,6 +425,11 @@ public final class TownEdges {
         doc.is("a third of two", x.hour(4, 2), -9);
         doc.is("NOBODY's", x.hour(2, -1), 0);
         doc.is("NOBODY's", x.hour(2, 0), -9);
+        doc.says(5, "A WEEK has 28 HOURS");
+        WhoseHourItIs week = Due.of("po00;h00-27;");
+        for (int hour = -2; hour < 30; hour++) {
+            doc.is("HOUR " + hour, week.hour(hour, 0), hour < 0 || hour > 27 ? -1 : 0);
+        }
         doc.says(5, "-1; -4 i.");
         doc.is("hour(0, -1)", x.hour(0, -1), 0);
         doc.is("hour(27, -1)", x.hour(27, -1), 2);

@@ -45,7 +45,7 @@ public final class Unchanged {
 
     /** A HOLDER of each KIND that gives leave, four WORKS, and something of all else. */
     private static WhoseHourItIs some() {
-        WhoseHourItIs x = Due.of("po10;py21;ps32;pj43;pk51;pn65;h00-5;h13-9;h25-14;h312-20;h418-24;h522-27;"
+        WhoseHourItIs x = Due.of("po10;py21;ps32;pj43;pk51;pn65;h00-5;h13-9;h25-14;h312-20;h418-24;h522-24;"
             + "w0r2,20,30,1;w1s3,27,40,1;w2r1,27,20,2;w3s6,27,90,3;");
         x.image();
         x.price(3, 7);

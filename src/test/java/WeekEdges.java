@@ -62,17 +62,15 @@ public final class WeekEdges {
         x.marry(1, 0);
         doc.is("wedTo(0)", x.wedTo(0), 1);
         doc.is("wedTo(1)", x.wedTo(1), 0);
-        doc.is("wedTo(2)", x.wedTo(2), -1);
-        doc.is("wedTo(-1)", x.wedTo(-1), -1);
-        doc.is("wedTo(least)", x.wedTo(LEAST), -1);
-        doc.is("wedTo(greatest)", x.wedTo(GREATEST), -1);
+        doc.nobody("wedTo", x, 2, x::wedTo);
         Due.tell(x, "po00;");
         doc.is("one more", x.wedTo(2), -9);
         doc.is("count(11)", x.count(11), 4);
     }
 
     private void heirs() {
-        doc.says(25, "wants more than told leaves (0 .. 9999): the least 0 .. 20; -9.");
+        doc.says(25, "after how many lives an HOUR, each part of which comes to 2 heirs in each, "
+            + "wants more than told leaves (0 .. 9999): the least 0 .. 20; -9.");
         WhoseHourItIs x = Due.of("po00;po00;po00;h01-3;h12-3;h23-27;");
         for (int hour = 1; hour <= 3; hour++) {
             int wanted = hour;
@@ -254,6 +252,15 @@ public final class WeekEdges {
         for (int v = 0; v <= 9; v++) {
             doc.is("row(" + v + ")", x.row(v), v + 1);
         }
+        doc.says(31, "A ROW (bytes; 28 at most): for each HOUR a WORK, or 9");
+        WhoseHourItIs hours = Due.of("po00;w0r1,27,0,0;");
+        for (int hour = 0; hour < 28; hour++) {
+            for (int i = 0; i < hour; i++) {
+                hours.row(9);
+            }
+            doc.is("the byte of HOUR " + hour, hours.row(8), hour + 1);
+            doc.is("is judged as HOUR " + hour, hours.judge(0), hour);
+        }
         doc.says(31, "-4; -6 (9; 28, too).");
         doc.is("row(-1)", x.row(-1), -4);
         doc.is("row(least)", x.row(LEAST), -4);
@@ -352,6 +359,14 @@ public final class WeekEdges {
     }
 
     private void judge() {
+        doc.says(32, "JUDGED (what 0), NOT DONE (1)");
+        WhoseHourItIs both = Due.of("po00;w0r1,27,0,0;w0r2,0,0,0;");
+        judged("HOUR 2 is later than BY", both, "991", 2);
+        done("WORK 0 has none", both, "991", 0);
+        judged("every HOUR may be worked", both, "09", -9);
+        done("WORK 1 has none", both, "09", 1);
+        judged("HOUR 2 is later than BY", both, "0911", 2);
+        done("though later than BY", both, "0911", -9);
         doc.says(32, "-9 (the ROW has none then; HOURS behind it are not worked).");
         WhoseHourItIs x = Due.of("po00;w0r1,0,0,0;");
         doc.is("an empty ROW", x.judge(0), -9);

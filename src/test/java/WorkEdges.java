@@ -1,7 +1,5 @@
 /** Edges that the document names for promises 15 to 22: all works, prices at rest, stops, power, whom to wed. */
 public final class WorkEdges {
-    private static final int LEAST = Integer.MIN_VALUE;
-    private static final int GREATEST = Integer.MAX_VALUE;
     private static final String EIGHT = "po00;po00;po00;po00;po00;po00;po00;po00;";
 
     private final Sentences doc = new Sentences();
@@ -69,8 +67,14 @@ public final class WorkEdges {
         doc.is("begin(0)", y.begin(0), 1);
         doc.is("begin(1)", y.begin(1), 0);
         doc.is("the greatest", Due.of("po00;w0r6,27,99,0;w0r6,27,99,0;w0r6,27,99,0;").all(), 297);
-        WhoseHourItIs barred = Due.of("po00;pt00;h10-27;w0r1,27,99,0;");
-        doc.is("no leave", barred.all(), 0);
+        doc.is("no leave", Due.of("po00;pt00;h10-27;w0r1,27,99,0;").all(), 0);
+        WhoseHourItIs again = Due.of("po00;");
+        again.image();
+        Due.tell(again, "w0r1,27,9,0;w0r1,27,9,0;");
+        doc.is("two HOURS for two", again.all(), 18);
+        again.on();
+        Due.tell(again, "w0r1,0,9,0;w0r1,0,9,0;");
+        doc.is("one HOUR for two others", again.all(), 9);
         doc.is("NET 0", Due.of("po00;w0r1,27,0,0;").all(), 0);
     }
 
@@ -103,15 +107,12 @@ public final class WorkEdges {
         doc.says(16, "-1; -6 likewise.");
         WhoseHourItIs x = Due.of("po00;w0r1,27,9,0;w0r1,27,9,0;w0r1,27,9,0;w0s1,27,9,0;");
         doc.is("begin(2)", x.begin(2), 2);
-        doc.is("begin(4)", x.begin(4), -1);
-        doc.is("begin(-1)", x.begin(-1), -1);
+        doc.nobody("begin", x, 4, x::begin);
         Due.tell(x, "w0r1,27,9,0;");
         doc.is("four in a row: begin(0)", x.begin(0), -6);
         doc.is("four in a row: a spread one", x.begin(3), -6);
-        doc.is("four in a row: begin(5)", x.begin(5), -1);
-        doc.is("four in a row: begin(least)", x.begin(LEAST), -1);
-        doc.is("count(11)", x.count(11), 4);
         doc.is("count(16)", x.count(16), 2);
+        doc.nobody("four in a row: begin", x, 5, x::begin);
     }
 
     private void ask() {
@@ -137,11 +138,7 @@ public final class WorkEdges {
         rivals.price(1, 0);
         doc.is("nothing to be had", rivals.ask(2), 0);
         doc.says(17, "ASK. -1.");
-        doc.is("ask(2)", x.ask(2), -1);
-        doc.is("ask(-1)", x.ask(-1), -1);
-        doc.is("ask(least)", x.ask(LEAST), -1);
-        doc.is("ask(greatest)", x.ask(GREATEST), -1);
-        doc.is("count(11)", x.count(11), 4);
+        doc.nobody("ask", x, 2, x::ask);
         doc.is("no holders", new WhoseHourItIs().ask(0), -1);
     }
 
@@ -180,6 +177,7 @@ public final class WorkEdges {
         doc.is("STRIKE stays", seven.strike(0), 254);
         doc.says(19, "of several the least as bits; -9 it can not be stopped; 0 it can not be anyhow.");
         doc.is("one of three", Due.of("po00;po00;po00;po00;h10-0;h20-0;h30-0;w0r1,0,9,0;").stop(0), 2);
+        doc.is("the first HOLDER", Due.of("po00;po00;h00-27;w1r1,27,9,0;").stop(0), 1);
         doc.is("two of three", Due.of("po00;po00;po00;po00;h10-1;h20-0;h31-2;h22-2;w0r1,2,9,0;").stop(0), 6);
         doc.is("NOBODY's HOUR", Due.of("po00;po00;h10-26;w0r1,27,9,0;").stop(0), -9);
         doc.is("its own HOUR", Due.of("po00;po00;h10-26;h027-27;w0r1,27,9,0;").stop(0), -9);
@@ -193,11 +191,7 @@ public final class WorkEdges {
         doc.is("NEVER", Due.of("po00;pt00;h10-27;w0r1,27,9,0;").stop(0), 0);
         doc.is("more HOURS than by BY", Due.of("po00;po00;h10-27;w0r2,0,9,0;").stop(0), 0);
         doc.says(19, "STOP (bits); -9. -1.");
-        doc.is("stop(1)", bell.stop(1), -1);
-        doc.is("stop(-1)", bell.stop(-1), -1);
-        doc.is("stop(least)", bell.stop(LEAST), -1);
-        doc.is("stop(greatest)", bell.stop(GREATEST), -1);
-        doc.is("count(11)", bell.count(11), 4);
+        doc.nobody("stop", bell, 1, bell::stop);
     }
 
     private void stopAll() {
@@ -206,6 +200,8 @@ public final class WorkEdges {
         doc.is("no WORKS", Due.of(EIGHT).stopAll(), 0);
         doc.is("WORKS that can not be", Due.of("po00;pt00;h10-27;w0r1,27,9,0;").stopAll(), 0);
         doc.is("who does it, of NOBODY's HOURS", Due.of("po00;po00;w1r1,27,9,0;").stopAll(), 2);
+        doc.is("the only one", Due.of("po00;w0r1,27,9,0;").stopAll(), 1);
+        doc.is("everyone", Due.of("po00;po00;w0r1,27,9,0;w1r1,27,9,0;").stopAll(), 3);
         doc.is("either would do: the least", Due.of("po00;po00;h00-27;w1r1,27,9,0;").stopAll(), 1);
         doc.is("either would do: the least", Due.of("po00;po00;h10-27;w0r1,27,9,0;").stopAll(), 1);
         doc.is("one for two WORKS", Due.of("po00;po00;po00;h20-27;w0r1,27,9,0;w1r1,27,9,0;").stopAll(), 4);
@@ -273,6 +269,9 @@ public final class WorkEdges {
         WhoseHourItIs as = Due.of("po00;pt00;po00;po00;h10-0;h20-0;h31-1;h22-2;w0r1,2,9,0;");
         fraction("one who never gives leave", as, 1, 0, 1);
         fraction("one who does", as, 2, 1, 2);
+        WhoseHourItIs first = Due.of("po00;po00;po00;po00;h00-1;h10-0;h21-1;w3r1,1,9,0;");
+        fraction("the first HOLDER", first, 0, 2, 3);
+        fraction("the one behind it", first, 1, 1, 6);
         doc.says(21, "those behind being on STRIKE");
         WhoseHourItIs last = Due.of("po00;po00;po00;h00-0;h10-0;h20-0;w0r1,0,9,0;");
         fraction("the last of two", last, 1, 1, 2);
@@ -282,7 +281,8 @@ public final class WorkEdges {
     }
 
     private void wed() {
-        doc.says(22, "COSTS of ONE of all its WORKS together are least (one that can not be counts 100), less than now, of several the least; -9.");
+        doc.says(22, "COSTS of ONE of all its WORKS together are least"
+            + " (one that can not be counts 100), less than now, of several the least; -9.");
         WhoseHourItIs x = Due.of("po00;po40;po50;po50;h10-27;h20-27;h30-27;w0r1,27,0,0;");
         doc.is("of two who save 5 the least", x.wed(0), 2);
         doc.is("nobody is WED by that", x.wedTo(0), -9);
@@ -303,12 +303,14 @@ public final class WorkEdges {
         taken.marry(1, 2);
         doc.is("one who is WED to another", taken.wed(0), 1);
         doc.is("they stay", taken.wedTo(1), 2);
+        doc.says(22, "WED: of HOLDERS that other one with whom, WED to it (all parts of each free to the other)");
+        doc.is("not itself", Due.of("po00;po90;h00-27;w0r1,27,0,0;").wed(0), -9);
+        doc.is("not one whose parts are not of ONE", Due.of("po00;po90;h11-27;w0r1,27,0,0;").wed(0), -9);
+        // With 1 the HOURS 6 to 11 cost nothing, with 2 they cost as much as ever.
+        WhoseHourItIs parts = Due.of("po00;po20;po30;h10-27;h20-5;h212-27;w0r6,27,0,0;");
+        doc.is("all its parts", parts.wed(0), 1);
         doc.says(22, "WED; -9. -1.");
-        doc.is("wed(4)", x.wed(4), -1);
-        doc.is("wed(-1)", x.wed(-1), -1);
-        doc.is("wed(least)", x.wed(LEAST), -1);
-        doc.is("wed(greatest)", x.wed(GREATEST), -1);
-        doc.is("count(11)", x.count(11), 4);
+        doc.nobody("wed", x, 4, x::wed);
     }
 
     private void wedCountsAHundred() {
