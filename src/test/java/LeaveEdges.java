@@ -299,6 +299,11 @@ public final class LeaveEdges {
         doc.is("three HOURS of one DAY, one of the next", z.one(0), 1 | 1 << 4);
         doc.is("two DAYS for three", z.one(1), 0);
         doc.is("the last DAY, its last HOUR", Due.of("po00;pt00;h10-26;w0s1,27,9,0;").one(0), 1 << 27);
+        // HOUR 4 alone costs nothing: it is DAY 1's, and DAY 0 has none so cheap.
+        WhoseHourItIs next = Due.of("po00;po50;h10-3;h15-27;w0s2,27,9,0;w0s1,27,9,0;");
+        doc.is("the next DAY's first HOUR is not of this DAY", next.one(0), 1 | 1 << 4);
+        doc.is("its COST", next.cost(0), 5);
+        doc.is("one HOUR alone", next.one(1), 1 << 4);
     }
 
     private void leastAsBits() {

@@ -33,6 +33,10 @@ public final class WorkEdges {
             Due.tell(x, "w0r1,27,9,0;");
             doc.is("three spread, " + rows + " in a row", x.all(), 9 * rows);
         }
+        for (int rows = 0; rows <= 3; rows++) {
+            String six = "w0s1,27,90,0;".repeat(6 - rows) + "w0r1,27,9,0;".repeat(rows);
+            doc.is("six WORKS, " + rows + " in a row", Due.of("po00;" + six).all(), 9 * rows);
+        }
         doc.says(15, "-6 more than 3 WORKS in a row.");
         WhoseHourItIs four = Due.of("po00;w0r1,27,9,0;w0r1,27,9,0;w0r1,27,9,0;");
         doc.is("three", four.all(), 27);
