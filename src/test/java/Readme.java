@@ -133,20 +133,20 @@ public final class Readme {
                 continue;
             }
             boolean fits = words.get(0).equals(".ci/run") && isTest(words.get(1)) && !words.get(1).equals("Readme");
-            right("a way to run one test: " + way, fits && exitOf(words) == 0);
+            right("a way to run one test: " + way, fits && endsWith(0, words));
         }
-        right("a test that is not there fails", exitOf(List.of(".ci/run", "NoSuchTest")) == 1);
-        right("a helper is no test", exitOf(List.of(".ci/run", "Due")) == 1);
+        right("a test that is not there fails", endsWith(1, List.of(".ci/run", "NoSuchTest")));
+        right("a helper is no test", endsWith(1, List.of(".ci/run", "Due")));
     }
 
-    private static int exitOf(List<String> words) throws IOException, InterruptedException {
+    private static boolean endsWith(int code, List<String> words) throws IOException, InterruptedException {
         Process process = new ProcessBuilder(words).redirectErrorStream(true).start();
         String said = new String(process.getInputStream().readAllBytes(), StandardCharsets.UTF_8);
-        int exit = process.waitFor();
-        if (exit != 0 && exit != 1) {
-            System.out.println(String.join(" ", words) + ":\n" + said);
+        boolean ended = process.waitFor() == code;
+        if (!ended) {
+            System.out.println(String.join(" ", words) + " said:\n" + said);
         }
-        return exit;
+        return ended;
     }
 
     private static boolean isTest(String name) throws IOException {
